@@ -301,10 +301,33 @@ final class Model {
             return false;
         }
 
+        /** What SLICES leave over at one k, each worked out once. */
+        private final java.util.Map<Integer, Long> known = new java.util.HashMap<>();
+
+        /** What a SLIP leaves over, SLICE by SLICE; null: one is FAST. */
+        private Long leftOver(Slip s, int k) {
+            long all = 0;
+            for (int c = s.a; c < s.b; c++) {
+                int key = (c * 128 + s.base[c]) * 128 + s.base[c + 1];
+                if (!known.containsKey(key)) {
+                    BigInteger rubs = rubs(s, c, k);
+                    known.put(key, rubs == null ? null : rubs.multiply(BigInteger.valueOf(1000))
+                            .subtract(BigInteger.valueOf(push(s, c)).multiply(BigInteger.valueOf(k))).longValueExact());
+                }
+                Long one = known.get(key);
+                if (one == null) {
+                    return null;
+                }
+                all = Math.addExact(all, one);
+            }
+            return all;
+        }
+
         private boolean allStand(List<Slip> all, int k) {
+            known.clear();
             for (Slip s : all) {
-                BigInteger over = over(s, k, 0);
-                if (over != null && over.signum() < 0) {
+                Long over = leftOver(s, k);
+                if (over != null && over < 0) {
                     return false;
                 }
             }
@@ -324,9 +347,10 @@ final class Model {
                     high = m;
                 }
             }
-            BigInteger least = null;
+            Long least = null;
+            known.clear();
             for (Slip s : low == 20000 ? new ArrayList<Slip>() : all) {
-                BigInteger over = over(s, low + 1, 0);
+                Long over = leftOver(s, low + 1);
                 if (over == null) {
                     continue;
                 }
@@ -837,9 +861,11 @@ final class Model {
         if (what == 0) {
             return k;
         }
-        if (s == null) {
-            return NONE;
-        }
+        return s == null ? NONE : told(s, what);
+    }
+
+    /** What tables() tells of the SLIP that it found, for a what but 0. */
+    static int told(Slip s, int what) {
         return what == 1 ? s.a : what == 2 ? s.b : in(what - 10, s.a, s.b) ? s.base[what - 10] : NONE;
     }
 

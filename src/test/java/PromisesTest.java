@@ -278,6 +278,23 @@ public final class PromisesTest {
         put(x, "columns 6 1;");
         due("text()", x.text(), 1);
         due("all is anew", x.column(0, 0) + x.look(3) + x.look(2), 20);
+        StringBuilder full = new StringBuilder("columns 6 1;");
+        while (full.length() < 600) {
+            full.append(' ');
+        }
+        put(x, full.toString());
+        due("text() of 600 bytes", x.text(), 1);
+        x.undo();
+        for (String t : new String[] {"columns 6 1; soil", "columns 6 1; quake 1", "columns 6 1; ground 1*"}) {
+            full.setLength(0);
+            for (int i = t.length(); i < 600; i++) {
+                full.append(' ');
+            }
+            put(x, full + t);
+            due("a text that ends too early, with 600 bytes", x.text(), NONE);
+            due("fault(1)", x.fault(1), 600);
+            x.end(0);
+        }
         put(x, "columns 6 1; quake 501;");
         x.quake(3);
         due("text() with a fault", x.text(), NONE);
@@ -391,6 +408,17 @@ public final class PromisesTest {
         due("it is", x.column(10, 8), 19);
         due("deep below all", x.circle(40, -50, 20, true), 12);
         due("no lower than rock", x.column(10, 8), 0);
+        SlopeJudge wide = told("columns 40 10; ground 0 20*39 0;");
+        due("x 450", wide.circle(450, 20, 70, true), 2);
+        due("x 451", wide.circle(451, 20, 70, true), NONE);
+        due("x -50", wide.circle(-50, 20, 70, true), 2);
+        due("x -51", wide.circle(-51, 20, 70, true), NONE);
+        due("y 450", wide.circle(200, 450, 440, true) > 0, true);
+        due("y 451", wide.circle(200, 451, 440, true), NONE);
+        due("y -50", wide.circle(200, -50, 60, true) > 0, true);
+        due("y -51", wide.circle(200, -51, 60, true), NONE);
+        due("r 500", told("columns 40 1; ground 0 20*39 0;").circle(20, 450, 500, true), 40);
+        due("r 501", told("columns 40 1; ground 0 20*39 0;").circle(20, 450, 501, true), NONE);
         due("the first row begins at 0", told("columns 8 4; ground 20 0 20*7;").circle(12, 20, 16, true), NONE);
         due("only the first row", told("columns 8 4; ground 0 20 0 20 0 20*4; rock 0*9;").circle(16, 20, 16, true), 2);
     }
@@ -442,6 +470,12 @@ public final class PromisesTest {
         x.point(3, 0);
         x.point(4, 100);
         due("side by side", x.points(true), 1);
+        SlopeJudge twelve = new SlopeJudge();
+        for (int c = 0; c < 12; c++) {
+            twelve.point(c, 19 - c % 2);
+        }
+        due("twelve points", twelve.points(true), 11);
+        due("base 9", twelve.column(9, 8), 18);
         due("base a", x.column(3, 8), 20);
         due("base b", x.column(4, 8), 20);
     }
@@ -451,6 +485,8 @@ public final class PromisesTest {
         SlopeJudge x = told("columns 6 2; ground 2 2 4 6 8 8 8; soil 0 20 2 100;");
         due("worst(0)", x.worst(0, true), NONE);
         due("worst(13)", x.worst(13, true), NONE);
+        due("worst(12)", x.worst(12, true) > 0, true);
+        due("worst(1)", x.worst(1, true), x.tables(1, true, 2) - x.tables(1, true, 1));
         due("none goes right", x.worst(3, false) == NONE, x.tables(3, false, 0) == 20000);
         int many = x.worst(3, true);
         due("worst(3)", many, x.tables(3, true, 2) - x.tables(3, true, 1));
@@ -603,6 +639,13 @@ public final class PromisesTest {
         due("stands(20001)", x.stands(20001), NONE);
         due("without a slip", new SlopeJudge().stands(1), NONE);
         due("a fast slice stands", layered().stands(800), 1);
+        // PUSH 1, no RUBS: even this is too much
+        SlopeJudge one = told("columns 4 1; load 1 0*4; soil 0 1 0 0; quake 1;");
+        one.point(0, 0);
+        one.point(1, 0);
+        one.points(true);
+        due("push 1", one.sum(0), 1);
+        due("stands(1)", one.stands(1), 0);
         promise = 23;
         due("factor", x.factor(), 500);
         due("without a slip", new SlopeJudge().factor(), NONE);
@@ -721,8 +764,9 @@ public final class PromisesTest {
         steep.tell(1, 2, 0);
         steep.tell(2, 2, 400);
         due("20000", steep.pull(1), 20000);
-        steep.tell(1, 2, 1);
-        due("20001 or more", steep.pull(1), NONE);
+        // 400 times (100000 and 5) is 2000 times 20001
+        steep.quake(5);
+        due("20001", steep.pull(1), NONE);
     }
 
     private static void circles() {
@@ -752,6 +796,22 @@ public final class PromisesTest {
         SlopeJudge level = new SlopeJudge();
         due("rounds", level.boxes(40, 25, 10, 64, true, 4), 7);
         due("a start that does not cut", level.boxes(40, 60, 10, 64, true, 0), 20000);
+        SlopeJudge far = new SlopeJudge();
+        Model model = new Model();
+        far.size(40, 7);
+        model.size(40, 7);
+        far.soil(3, 20, 36, 384);
+        model.soil(3, 20, 36, 384);
+        for (int c = 3; c <= 40; c++) {
+            far.dig(c, -4 * Math.min(20, c - 2));
+            model.dig(c, -4 * Math.min(20, c - 2));
+        }
+        int[] hand = model.w.boxes(16, 403, 364, 1, true);
+        due("rounds, at most", far.boxes(16, 403, 364, 1, true, 4), 60);
+        due("at hand by then: x", far.boxes(16, 403, 364, 1, true, 1), hand[0]);
+        due("at hand by then: y", far.boxes(16, 403, 364, 1, true, 2), hand[1]);
+        due("at hand by then: r", far.boxes(16, 403, 364, 1, true, 3), hand[2]);
+        due("at hand by then: its factor", far.boxes(16, 403, 364, 1, true, 0), hand[3]);
         due("near by there is none", level.boxes(40, 60, 10, 1, true, 1), -100);
         promise = 32;
         due("dug by 0", x.dug(4, 0, 10, 24, 12, true), NONE);
@@ -788,13 +848,17 @@ public final class PromisesTest {
         due("ground less rock", x.deep(4, 20000, 400, 400, 1, true), 2);
         due("nothing of it stays", x.column(4, 0), 12);
         promise = 39;
+        int own = x.tried(10, 24, 12, true);
         int cuts = 0;
         int below = 0;
+        int belowOwn = 0;
         for (int i = 0; i < 125; i++) {
             int t = x.tried(10 + 3 * (i / 25 - 2), 24 + 3 * (i / 5 % 5 - 2), 12 + 3 * (i % 5 - 2), true);
             cuts += t == NONE ? 0 : 1;
             below += t != NONE && t < 1500 ? 1 : 0;
+            belowOwn += t != NONE && t < own ? 1 : 0;
         }
+        due("a factor of k is not below it", x.scan(10, 24, 12, 3, true, own, 1), belowOwn);
         due("scan 0", x.scan(10, 24, 12, 3, true, 1500, 0), cuts);
         due("scan 1", x.scan(10, 24, 12, 3, true, 1500, 1), below);
         due("some cut, some are below", cuts > below && below > 0, true);
@@ -913,6 +977,9 @@ public final class PromisesTest {
         y.tell(0, 2, v);
         y.tell(1, 2, v);
         due("as much as 500", y.berm(0, 1, k), 500);
+        y.tell(0, 2, v - 1);
+        y.tell(1, 2, v - 1);
+        due("501 is too much", y.berm(0, 1, k), NONE);
     }
 
     private static void shapes() {
@@ -1128,6 +1195,7 @@ public final class PromisesTest {
             due("look(" + what + ")", x.look(what), want[what]);
         }
         due("look(-1)", x.look(-1), -10);
+        due("no ground at all", told("columns 4 1; ground 0*5;").look(11), 0);
         due("circle", x.circle(3, 9, 3, true), 3);
         due("look(4)", x.look(4), 3);
         due("look(5)", x.look(5), 0);

@@ -2,7 +2,7 @@ import java.util.Random;
 
 /** Runs of calls by chance (always the same ones), every answer held against the Model's. */
 public final class RandomRunsTest {
-    private static final int RUNS = 120;
+    private static final int RUNS = 800;
     private static final int CALLS = 300;
     private static int wrong = 0;
     private static long asked = 0;
@@ -353,8 +353,11 @@ public final class RandomRunsTest {
         }
         boolean left = chance.nextBoolean();
         int t = near(1, 5);
+        Model.Slip[] found = new Model.Slip[1];
+        int k = Model.in(t, 1, 12) ? m.w.tables(t, left, found) : SlopeJudge.NONE;
         for (int what = -1; what < 18; what++) {
-            due("tables(" + t + ", " + left + ", " + what + ")", x.tables(t, left, what), m.tables(t, left, what));
+            int want = what == 0 ? k : found[0] == null ? SlopeJudge.NONE : Model.told(found[0], what);
+            due("tables(" + t + ", " + left + ", " + what + ")", x.tables(t, left, what), want);
         }
     }
 
