@@ -354,6 +354,10 @@ public final class PromisesTest {
         faulty("columns 4 4;soil 0 1 1 1501;", 2, 23);
         faulty("columns 4 4;soil 0 1 1;", 1, 22);
         faulty("columns 4 4;soil 0 1 1 1 1;", 1, 25);
+        faulty("columns 4 4;soil 0 31 1 1;", 2, 19);
+        faulty("columns 4 4;lock 0*5;", 1, 12);
+        faulty("columns 4 4;hop 1 0*5;", 1, 12);
+        faulty("xolumns 4 4;", 1, 0);
         faulty("columns 4 4;quake 501;", 2, 18);
         faulty("columns 4 4;quake;", 1, 17);
         faulty("columns 4 4;anchor 6 0 0 1;", 2, 19);
@@ -367,6 +371,8 @@ public final class PromisesTest {
         faulty("columns 4 4;soil 0 1 1 1;soil 1 1 1 1;soil 0 1 1 1;", 3, 43);
         faulty("columns 4 4;anchor 0 0 0 1;anchor 0 0 0 1;", 3, 34);
         faulty("columns 4 4;rock 21*5;  ", 4, 24);
+        faulty("columns 4 4;rock 21 0*4;", 4, 24);
+        faulty("columns 4 4;rock 0*4 21;", 4, 24);
         faulty("columns 4 4;rock 2*5;ground 3*4 1;", 4, 34);
         faulty("columns 4 4;rock 21*5", 1, 21);
         faulty("columns 4 4;rock 21*5;quake", 1, 27);
@@ -646,6 +652,7 @@ public final class PromisesTest {
         one.points(true);
         due("push 1", one.sum(0), 1);
         due("stands(1)", one.stands(1), 0);
+        due("a pull of 1 is enough", one.pull(1), 1);
         promise = 23;
         due("factor", x.factor(), 500);
         due("without a slip", new SlopeJudge().factor(), NONE);
@@ -735,6 +742,14 @@ public final class PromisesTest {
         loose.point(2, 0);
         loose.points(true);
         due("needs too much", loose.needs(20000), NONE);
+        // level, RUB 0: RUBS are 2000 times HOLD, PUSH is LOAD times QUAKE
+        SlopeJudge level500 = told("columns 4 1; load 500 0*4; soil 0 1 0 0; quake 100;");
+        level500.point(0, 0);
+        level500.point(1, 0);
+        level500.points(true);
+        due("needs 500", level500.needs(20000), 500);
+        level500.tell(1, 2, 1);
+        due("needs 501", level500.needs(20000), NONE);
         due("needs(0)", x.needs(0), NONE);
         due("needs(20001)", x.needs(20001), NONE);
         due("without a slip", new SlopeJudge().needs(1), NONE);
