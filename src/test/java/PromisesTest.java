@@ -1,4 +1,4 @@
-/** Each promise by ordinary inputs, the edges that the document names, and wrong inputs, with numbers worked out by hand. */
+/** Each promise by ordinary inputs, the edges that the document names, and wrong inputs; most numbers are worked out by hand. */
 public final class PromisesTest {
     private static final int NONE = -1;
     private static final long NO_SLICE = -10000000000000L;
