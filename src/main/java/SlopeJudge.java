@@ -41,6 +41,7 @@ public final class SlopeJudge {
     private final Ground imageGround = new Ground();
     private final Held held = new Held();
     private final Held imageHeld = new Held();
+    private final Report chosen = new Report();
     private final Ground[] acts = new Ground[MOST_ACTS];
     private final Tape tape = new Tape();
     private final Slices slices = new Slices();
@@ -162,10 +163,10 @@ public final class SlopeJudge {
 
     public int text() {
         int lines = tape.read(thought);
+        tape.length = 0;
         if (lines == NONE) {
             return NONE;
         }
-        tape.length = 0;
         keepAct();
         now.copy(thought);
         return lines;
@@ -706,27 +707,22 @@ public final class SlopeJudge {
     // ---- the report ----
 
     public int report() {
-        held.signs = 0;
+        chosen.length = 0;
         if (!cutUp()) {
             return NONE;
         }
-        int thousandths = slices.leastBound(MOST_K + 1);
-        held.writeNumber(thousandths / 1000);
-        held.write('.');
-        held.write('0' + thousandths / 100 % 10);
-        held.write('0' + thousandths / 10 % 10);
-        held.write('0' + thousandths % 10);
-        held.write(' ');
-        held.writeNumber(now.slip.from);
-        held.write('-');
-        held.writeNumber(now.slip.to);
-        held.write(' ');
-        held.write(now.slip.left ? 'L' : 'R');
-        return held.signs;
+        chosen.writeFactor(slices.leastBound(MOST_K + 1));
+        chosen.write(' ');
+        chosen.writeNumber(now.slip.from);
+        chosen.write('-');
+        chosen.writeNumber(now.slip.to);
+        chosen.write(' ');
+        chosen.write(now.slip.left ? 'L' : 'R');
+        return chosen.length;
     }
 
     public int sign(int i) {
-        return i >= 0 && i < held.signs ? held.sign[i] : NONE;
+        return i >= 0 && i < chosen.length ? chosen.signs[i] : NONE;
     }
 
     private static int topPlace(int layer, int column) {
@@ -745,34 +741,44 @@ public final class SlopeJudge {
         return root;
     }
 
-    /** What is told beside the ground: POINTS, STATE and the chosen REPORT. */
+    /** What is told beside the ground, so that THE IMAGE keeps it, but no ACT: POINTS and STATE. */
     private static final class Held {
         private final int[] pointColumn = new int[MOST_POINTS];
         private final int[] pointHeight = new int[MOST_POINTS];
-        private final int[] sign = new int[MOST_SIGNS];
         private int points;
         private int state;
-        private int signs;
 
         private void copy(Held other) {
             System.arraycopy(other.pointColumn, 0, pointColumn, 0, MOST_POINTS);
             System.arraycopy(other.pointHeight, 0, pointHeight, 0, MOST_POINTS);
-            System.arraycopy(other.sign, 0, sign, 0, MOST_SIGNS);
             points = other.points;
             state = other.state;
-            signs = other.signs;
         }
 
         private int draw(int m) {
             state = 1664525 * state + 1013904223;
             return m <= 0 ? 0 : (state >>> 8) % m;
         }
+    }
+
+    /** The chosen REPORT. It is chosen, not told: neither an ACT nor THE IMAGE keeps it. */
+    private static final class Report {
+        private final int[] signs = new int[MOST_SIGNS];
+        private int length;
 
         private void write(int letter) {
-            if (signs < MOST_SIGNS) {
-                sign[signs] = letter;
-                signs++;
+            if (length < MOST_SIGNS) {
+                signs[length] = letter;
+                length++;
             }
+        }
+
+        private void writeFactor(int thousandths) {
+            writeNumber(thousandths / 1000);
+            write('.');
+            write('0' + thousandths / 100 % 10);
+            write('0' + thousandths / 10 % 10);
+            write('0' + thousandths % 10);
         }
 
         /** A number of at most two digits: no FACTOR and no COLUMN has more ahead of its point. */

@@ -410,7 +410,6 @@ final class Model {
     World imageWorld;
     List<int[]> imagePts;
     int imageState;
-    String imageChosen;
 
     private boolean col(int c) {
         return in(c, 0, w.n);
@@ -621,11 +620,12 @@ final class Model {
 
     int text() {
         int[] lines = new int[1];
+        String t = tape.toString();
+        tape.setLength(0);
         try {
-            World read = parse(tape.toString(), lines);
+            World read = parse(t, lines);
             act();
             w = read;
-            tape.setLength(0);
             faultKind = 0;
             faultPlace = NONE;
             return lines[0];
@@ -1040,7 +1040,6 @@ final class Model {
             imageWorld = w.copy();
             imagePts = new ArrayList<>(pts);
             imageState = state;
-            imageChosen = chosen;
             return true;
         }
         if (imageWorld == null) {
@@ -1049,7 +1048,6 @@ final class Model {
         w = imageWorld.copy();
         pts = new ArrayList<>(imagePts);
         state = imageState;
-        chosen = imageChosen;
         acts.clear();
         return true;
     }

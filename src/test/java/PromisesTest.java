@@ -293,13 +293,19 @@ public final class PromisesTest {
             put(x, full + t);
             due("a text that ends too early, with 600 bytes", x.text(), NONE);
             due("fault(1)", x.fault(1), 600);
-            x.end(0);
         }
         put(x, "columns 6 1; quake 501;");
         x.quake(3);
         due("text() with a fault", x.text(), NONE);
         due("all stays", x.look(2), 3);
-        due("all stays, the tape too", x.look(10), 23);
+        due("but the tape is empty", x.look(10), 0);
+        due("what was on it is gone", x.end(1), false);
+        due("feed() comes first", x.feed(0, 0, 0, 0, 0), 20);
+        due("bytes of 0 are no text", x.text(), NONE);
+        due("feed() comes first again", x.feed(0, 0, 0, 0, 0), 20);
+        x.end(0);
+        due("an empty tape is no text", x.text(), NONE);
+        due("the tape stays empty", x.look(10), 0);
         due("acts", x.look(9), 2);
     }
 
@@ -379,10 +385,14 @@ public final class PromisesTest {
         SlopeJudge x = new SlopeJudge();
         put(x, "columns 4 4;rock 21*5;");
         x.text();
-        x.end(22);
         put(x, "ground 21*5;");
-        due("the text goes on behind its fault", x.text(), 3);
+        due("a text does not go on behind a fault", x.text(), NONE);
+        due("fault(0)", x.fault(0), 1);
+        due("its place is that of the new text", x.fault(1), 0);
+        put(x, "columns 4 4;ground 21*5;rock 21*5;");
+        due("told anew, whole", x.text(), 3);
         due("fault(0)", x.fault(0), 0);
+        due("fault(1)", x.fault(1), NONE);
     }
 
     private static void circle() {
@@ -1164,17 +1174,19 @@ public final class PromisesTest {
         x.state(9);
         x.anchor(3, 1, 30, 8);
         x.report();
-        String chosen = reported(x);
         put(x, "columns");
         x.text();
         due("taken", x.image(true), true);
         for (int times = 0; times < 2; times++) {
             x.size(9, 9);
+            x.circle(40, 25, 10, times == 0);
+            dueReport(x, times == 0 ? "20.000 3-6 L" : "20.000 3-6 R");
+            String chosen = reported(x);
             x.state(10);
             x.point(NONE, 0);
-            x.report();
-            put(x, " 4 4");
+            put(x, "   4");
             x.text();
+            put(x, "rock");
             due("gone back to", x.image(false), true);
             due("n", x.look(0), 4);
             due("B", x.look(1), 3);
@@ -1185,10 +1197,13 @@ public final class PromisesTest {
             due("points", x.look(8), 5);
             due("no acts", x.look(9), 0);
             due("no acts", x.undo(), NONE);
-            due("the tape is as it is", x.look(10), 7 + 4 * (times + 1));
-            due("the fault is as it is", x.fault(1), times == 0 ? 11 : 12);
+            due("the tape is as it is", x.look(10), 4);
+            due("the fault is as it is", x.fault(1), 3);
+            x.end(0);
             due("state", x.look(13), 9);
-            due("the chosen report", reported(x).equals(chosen), true);
+            promise = 43;
+            due("the report as it was when chosen", reported(x).equals(chosen), true);
+            promise = 44;
             due("load", x.column(1, 3), 7);
             due("soil", x.layer(2, 2), 500);
         }
@@ -1199,6 +1214,38 @@ public final class PromisesTest {
         due("the new one", x.image(false), true);
         due("right", x.look(7), 0);
         due("quake", x.look(2), 100);
+    }
+
+    /** Only report() chooses a REPORT or leaves none chosen; no other call does. */
+    private static void chosenStays() {
+        promise = 43;
+        SlopeJudge x = new SlopeJudge();
+        x.image(true);
+        x.circle(40, 25, 10, true);
+        dueReport(x, "20.000 7-13 L");
+        x.image(false);
+        due("behind an image taken ahead of it", reported(x).equals("20.000 7-13 L"), true);
+        x.circle(60, 25, 10, true);
+        x.mirror();
+        x.undo();
+        x.undo();
+        x.size(4, 1);
+        x.undo();
+        put(x, "columns 4 1;");
+        x.text();
+        x.worst(1, true);
+        x.factor();
+        due("behind other acts", reported(x).equals("20.000 7-13 L"), true);
+        due("none is chosen", x.report(), NONE);
+        x.image(false);
+        due("an image brings none back", x.sign(0), NONE);
+        x.circle(40, 25, 10, false);
+        dueReport(x, "20.000 7-13 R");
+        x.image(true);
+        x.dig(0, 1);
+        due("none without a slip", x.report(), NONE);
+        x.image(false);
+        due("an image with a slip brings none back", x.sign(0), NONE);
     }
 
     private static void looks() {
@@ -1244,6 +1291,7 @@ public final class PromisesTest {
         chances();
         reports();
         images();
+        chosenStays();
         looks();
         System.out.println(checks + " answers to promises, " + wrong + " wrong");
         if (wrong != 0) {

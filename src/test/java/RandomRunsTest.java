@@ -76,7 +76,11 @@ public final class RandomRunsTest {
     }
 
     private void feedText(String t) {
-        due("end(0)", of(x.end(0)), of(m.end(0)));
+        // what is left on the tape, if anything, is at times a part of the text
+        if (chance.nextInt(4) != 0 || m.look(10) + t.length() > 580) {
+            due("end(0)", of(x.end(0)), of(m.end(0)));
+        }
+        int was = m.look(10);
         for (int at = 0; at < t.length(); at += 20) {
             int[] v = new int[5];
             for (int i = 0; i < 20; i++) {
@@ -85,10 +89,11 @@ public final class RandomRunsTest {
             }
             due("feed(" + v[0] + ", ..)", x.feed(v[0], v[1], v[2], v[3], v[4]), m.feed(v));
         }
-        due("end(" + t.length() + ")", of(x.end(t.length())), of(m.end(t.length())));
+        due("end(" + (was + t.length()) + ")", of(x.end(was + t.length())), of(m.end(was + t.length())));
         due("text() of \"" + t + "\"", x.text(), m.text());
         due("fault(0)", x.fault(0), m.fault(0));
         due("fault(1)", x.fault(1), m.fault(1));
+        due("look(10) behind text()", x.look(10), 0);
     }
 
     private String row(int n, int least, int most) {
