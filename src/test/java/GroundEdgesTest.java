@@ -347,6 +347,18 @@ public final class GroundEdgesTest {
     }
 
     private static void slices() {
+        says("A SLICE is between two COLUMNS x, x + 1 of a SLIP.");
+        for (int b = 4; b <= 6; b++) {
+            SlopeJudge y = Edges.told("columns 6 1;");
+            y.point(3, 19);
+            y.point(b, 19);
+            due("slices from 3 to " + b, y.points(true), b - 3);
+            for (int i = 0; i < b - 3; i++) {
+                due("x of slice " + i, y.slice(i, 0), 3 + i);
+            }
+            due("none behind the last", y.slice(b - 3, 0), Edges.NO_SLICE);
+        }
+
         says("RISE: BASE at x + 1 less that at x; of one that goes RIGHT turned round (its sign).");
         SlopeJudge x = Edges.told("columns 4 1; ground 20 20 20 23 23;");
         Edges.slipped(x, true, 0, 20, 18, 18, 23);

@@ -426,6 +426,19 @@ public final class PromiseEdgesTest {
     }
 
     private static void askedSlip() {
+        says(20, "Of the i-th SLICE what 0 its COLUMN, 1 RISE, 2 WEIGHT, 3 LIFT, 4 PRESS, 5 LAYER, 6 STRENGTH, 7 PUSH.");
+        // BASES 20 12 10 12 20 in LAYERS from 20, 15, 15 and 11 down, B 3
+        SlopeJudge layered = Edges.told("columns 4 3; top 1 15*5; top 2 18*5; top 3 11*5; load 0 7 0*3; water 0 30 14 0 0;"
+                + "soil 0 10 10 300; soil 1 20 5 200; soil 2 30 40 500; soil 3 5 90 900; quake 100;");
+        Edges.slipped(layered, true, 0, 20, 12, 10, 12, 20);
+        long[][] want = {{0, -8, 441, 240, 201, 0, 120300, -3395700}, {1, -2, 966, 360, 606, 2, 543000, -1642200},
+            {2, 2, 945, 120, 825, 2, 652500, 2173500}, {3, 8, 420, 0, 420, 0, 186000, 3486000}};
+        for (int i = 0; i < want.length; i++) {
+            for (int what = 0; what < 8; what++) {
+                due("slice(" + i + ", " + what + ")", layered.slice(i, what), want[i][what]);
+            }
+        }
+
         says(20, "NONE - 9999999999999 if there is none such, or another what.");
         SlopeJudge x = Edges.rich();
         due("the first", x.slice(0, 0), 0);
