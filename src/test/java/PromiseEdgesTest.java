@@ -284,12 +284,19 @@ public final class PromiseEdgesTest {
     }
 
     private static void undone() {
-        says(16, "The latest ACT is UNDONE: how many are left. NONE if there is none.");
-        due("none", new SlopeJudge().undo(), NONE);
+        says(16, "The latest ACT is UNDONE: how many are left.");
         SlopeJudge x = Edges.told("columns 4 1;");
-        due("one", x.undo(), 0);
-        due("none", x.undo(), NONE);
+        x.dig(0, 1);
+        due("the second", x.undo(), 1);
+        due("ground", x.column(0, 0), 20);
+        due("n", x.look(0), 4);
+        due("the first", x.undo(), 0);
         due("n", x.look(0), 20);
+
+        says(16, "NONE if there is none.");
+        due("none any more", x.undo(), NONE);
+        due("n", x.look(0), 20);
+        Edges.idle("undo() of none", SlopeJudge::new, SlopeJudge::undo, NONE);
 
         says(0, "ACTS that can be UNDONE (the latest 8): dig(), text(), size(), mirror(): COLUMNS, LAYERS, LOADS, QUAKE, ANCHORS, the SLIP are as ahead of it (POINTS, STATE stay).");
         List<Edges.Call> acts = new ArrayList<>();
@@ -366,7 +373,7 @@ public final class PromiseEdgesTest {
     }
 
     private static void askedGround() {
-        says(17, "Of a COLUMN what 0 GROUND, 1 ROCK, 2 WATER (as it counts), 3 LOAD, 4 .. 7 TOP of LAYER what less 4 (as it counts), 8 BASE of the SLIP (NONE). NONE - 9 if there is none such, or another what.");
+        says(17, "Of a COLUMN what 0 GROUND, 1 ROCK, 2 WATER (as it counts), 3 LOAD, 4 .. 7 TOP of LAYER what less 4 (as it counts), 8 BASE of the SLIP (NONE).");
         SlopeJudge x = Edges.rich();
         int[][] want = {{20, 0, 20, 1, 20, 15, 15, 6, 20}, {20, 1, 12, 2, 20, 15, 15, 6, 17}, {23, 4, 0, 5, 23, 15, 15, 6, 23}};
         int[] columns = {0, 1, 4};
@@ -374,15 +381,6 @@ public final class PromiseEdgesTest {
             for (int what = 0; what < 9; what++) {
                 due("column(" + columns[i] + ", " + what + ")", x.column(columns[i], what), want[i][what]);
             }
-        }
-        for (int what = -2; what < 12; what++) {
-            int last = what;
-            for (int c : new int[] {-1, 5, 40, 41, LEAST, MOST}) {
-                idle("column(" + c + ", " + what + ")", -10, y -> y.column(c, last));
-            }
-        }
-        for (int what : new int[] {-1, 9, LEAST, MOST}) {
-            idle("column(0, " + what + ")", -10, y -> y.column(0, what));
         }
         due("no base without a slip", bare().column(1, 8), NONE);
         Edges.slipped(x, true, 1, 0, 16, 0);
@@ -392,11 +390,28 @@ public final class PromiseEdgesTest {
         due("at b", x.column(3, 8), 24);
         due("behind b", x.column(4, 8), NONE);
 
-        says(18, "Of a LAYER what 0 WEIGHT, 1 HOLD, 2 RUB. NONE if there is none such, or another what.");
+        says(17, "NONE - 9 if there is none such, or another what.");
+        for (int what = -2; what < 12; what++) {
+            int last = what;
+            for (int c : new int[] {-1, 5, 40, 41, LEAST, MOST}) {
+                idle("column(" + c + ", " + what + ")", -10, y -> y.column(c, last));
+            }
+        }
+        for (int what : new int[] {-1, 9, LEAST, MOST}) {
+            idle("column(0, " + what + ")", -10, y -> y.column(0, what));
+        }
+
+        says(18, "Of a LAYER what 0 WEIGHT, 1 HOLD, 2 RUB.");
         int[] soil = {30, 40, 500};
+        int[] first = {10, 10, 300};
+        for (int what = 0; what < 3; what++) {
+            due("layer(2, " + what + ")", x.layer(2, what), soil[what]);
+            due("layer(0, " + what + ")", x.layer(0, what), first[what]);
+        }
+
+        says(18, "NONE if there is none such, or another what.");
         for (int what = 0; what < 3; what++) {
             int last = what;
-            due("layer(2, " + what + ")", x.layer(2, what), soil[what]);
             for (int l : new int[] {-1, 4, LEAST, MOST}) {
                 idle("layer(" + l + ", " + what + ")", NONE, y -> y.layer(l, last));
             }
@@ -406,14 +421,20 @@ public final class PromiseEdgesTest {
             idle("layer(3, " + what + ")", NONE, y -> y.layer(3, what));
         }
 
-        says(19, "Of an ANCHOR what 0 COLUMN, 1 height, 2 PULL, 3 whether it counts for the SLIP (1, 0). NONE if there is none such, or another what.");
+        says(19, "Of an ANCHOR what 0 COLUMN, 1 height, 2 PULL, 3 whether it counts for the SLIP (1, 0).");
         SlopeJudge a = Edges.rich();
         int[] two = {1, 99, 7, 1};
         int[] five = {4, 50, 8, 0};
         for (int what = 0; what < 4; what++) {
-            int last = what;
             due("anchored(2, " + what + ")", a.anchored(2, what), two[what]);
             due("anchored(5, " + what + ")", a.anchored(5, what), five[what]);
+        }
+        due("without a slip", bare().anchored(2, 3), 0);
+        due("without a slip", bare().anchored(2, 2), 7);
+
+        says(19, "NONE if there is none such, or another what.");
+        for (int what = 0; what < 4; what++) {
+            int last = what;
             for (int i : new int[] {0, 1, 3, 4, -1, 6, LEAST, MOST}) {
                 idle("anchored(" + i + ", " + what + ")", NONE, y -> y.anchored(i, last));
             }
@@ -421,8 +442,6 @@ public final class PromiseEdgesTest {
         for (int what : new int[] {-1, 4, LEAST, MOST}) {
             idle("anchored(2, " + what + ")", NONE, y -> y.anchored(2, what));
         }
-        due("without a slip", bare().anchored(2, 3), 0);
-        due("without a slip", bare().anchored(2, 2), 7);
     }
 
     private static void askedSlip() {
@@ -459,10 +478,12 @@ public final class PromiseEdgesTest {
         due("one slice: its column", x.slice(0, 0), 2);
         due("one slice: no second", x.slice(1, 0), Edges.NO_SLICE);
 
-        says(21, "RUBS of the i-th SLICE at k (1 .. 20000). NONE if it is FAST; NONE - 9 if one can't be.");
+        says(21, "RUBS of the i-th SLICE at k (1 .. 20000).");
         SlopeJudge f = level("");
         due("rubs(0, 1)", f.rubs(0, 1), 20000);
         due("rubs(1, 20000)", f.rubs(1, 20000), 20000);
+
+        says(21, "NONE if it is FAST; NONE - 9 if one can't be.");
         SlopeJudge fast = Edges.slipped(Edges.told("columns 4 1; soil 0 1 0 500;"), true, 0, 20, 18, 20);
         due("fast", fast.rubs(0, 1000), NONE);
         due("not fast", fast.rubs(0, 1001), 1000 * 5 * 1001L);
@@ -475,33 +496,41 @@ public final class PromiseEdgesTest {
         }
         idleBare("rubs(0, 1000)", -10, y -> y.rubs(0, 1000));
 
-        says(22, "Whether the SLIP STANDS at k (1, 0). NONE if k can't be, or there is no SLIP.");
+        says(22, "Whether the SLIP STANDS at k (1, 0).");
         due("stands(1000)", f.stands(1000), 1);
         due("stands(1001)", f.stands(1001), 0);
         due("stands(1)", f.stands(1), 1);
         due("stands(20000)", f.stands(20000), 0);
+
+        says(22, "NONE if k can't be, or there is no SLIP.");
         for (int k : NO_K) {
             idle("stands(" + k + ")", NONE, y -> y.stands(k));
         }
         idleBare("stands(1000)", NONE, y -> y.stands(1000));
 
-        says(23, "FACTOR. NONE without a SLIP.");
+        says(23, "FACTOR.");
         due("factor()", f.factor(), 1000);
         idle("factor()", Edges.rich().factor(), SlopeJudge::factor);
+
+        says(23, "NONE without a SLIP.");
         idleBare("factor()", NONE, SlopeJudge::factor);
 
-        says(24, "Of the SLIP together what 0 PUSHES, 1 PULLS, 2 WEIGHTS, 3 LIFTS, 4 STRENGTHS. NONE - 9999999999999 without one, or for another what.");
+        says(24, "Of the SLIP together what 0 PUSHES, 1 PULLS, 2 WEIGHTS, 3 LIFTS, 4 STRENGTHS.");
         SlopeJudge s = level("water 15*5; anchor 0 1 11 3;");
         long[] sums = {40000, 6000, 400, 100, 30000};
         for (int what = 0; what < 5; what++) {
-            int last = what;
             due("sum(" + what + ")", s.sum(what), sums[what]);
+        }
+        shorter();
+
+        says(24, "NONE - 9999999999999 without one, or for another what.");
+        for (int what = 0; what < 5; what++) {
+            int last = what;
             idleBare("sum(" + what + ")", Edges.NO_SLICE, y -> y.sum(last));
         }
         for (int what : new int[] {-1, 5, LEAST, MOST}) {
             idle("sum(" + what + ")", Edges.NO_SLICE, y -> y.sum(what));
         }
-        shorter();
     }
 
     /** A SLIP behind a longer one: nothing of that counts. */
@@ -528,24 +557,28 @@ public final class PromiseEdgesTest {
     }
 
     private static void borne() {
-        says(25, "DRY. NONE without a SLIP.");
+        says(25, "DRY.");
         due("dry()", level("water 15*5;").dry(), 1000);
         idle("dry()", Edges.rich().dry(), SlopeJudge::dry);
+
+        says(25, "NONE without a SLIP.");
         idleBare("dry()", NONE, SlopeJudge::dry);
 
-        says(26, "BEARS (k 1 .. 20000). NONE if k can't be, there is no SLIP, or none.");
+        says(26, "BEARS (k 1 .. 20000).");
         due("bears(1)", level("").bears(1), 100);
         due("bears(1000)", level("").bears(1000), 10);
-        due("none", level("").bears(1001), NONE);
-        due("none at 20000", level("").bears(20000), NONE);
         SlopeJudge now = level("");
         now.soil(0, 20, 0, 200);
         due("as it is now", now.bears(2000), 10);
         due("all at 20000", Edges.slipped(Edges.told("columns 4 1;"), true, 0, 20, 15, 20).bears(20000), 100);
+        idle("bears(1)", 100, y -> y.bears(1));
+
+        says(26, "NONE if k can't be, there is no SLIP, or none.");
+        due("none", level("").bears(1001), NONE);
+        due("none at 20000", level("").bears(20000), NONE);
         for (int k : NO_K) {
             idle("bears(" + k + ")", NONE, y -> y.bears(k));
         }
-        idle("bears(1)", 100, y -> y.bears(1));
         idleBare("bears(1)", NONE, y -> y.bears(1));
 
         says(27, "NEEDS likewise.");
@@ -573,27 +606,34 @@ public final class PromiseEdgesTest {
     }
 
     private static void circles() {
-        says(29, "FACTOR of a CIRCLE. NONE if one can't be, or it does not CUT.");
+        says(29, "FACTOR of a CIRCLE.");
         SlopeJudge x = slope();
         int tried = x.tried(10, 24, 12, true);
         x.circle(10, 24, 12, true);
         due("tried", tried, x.factor());
         x.circle(10, 24, 12, false);
         due("to the right", x.tried(10, 24, 12, false), x.factor());
-        for (int[] c : new int[][] {{-51, 25, 10}, {451, 25, 10}, {6, -51, 10}, {6, 451, 440}, {6, 25, 0}, {6, 25, 501}, {LEAST, LEAST, LEAST},
-            {MOST, MOST, MOST}, {6, 60, 5}, {0, 25, 10}, {12, 25, 10}}) {
-            idle("tried(" + c[0] + ", " + c[1] + ", " + c[2] + ")", NONE, y -> y.tried(c[0], c[1], c[2], false));
-        }
         SlopeJudge cut = bare();
         due("circle(6, 25, 6)", cut.circle(6, 25, 6, true) > 0, true);
         idleBare("tried(6, 25, 6)", cut.factor(), y -> y.tried(6, 25, 6, true));
 
-        says(30, "BOXES what 0 the FACTOR, 1 x, 2 y, 3 r, 4 rounds. NONE - 99 if there is none, one can't be, or another what.");
+        says(29, "NONE if one can't be, or it does not CUT.");
+        for (int[] c : new int[][] {{-51, 25, 10}, {451, 25, 10}, {6, -51, 10}, {6, 451, 440}, {6, 25, 0}, {6, 25, 501}, {LEAST, LEAST, LEAST},
+            {MOST, MOST, MOST}, {6, 60, 5}, {0, 25, 10}, {12, 25, 10}}) {
+            idle("tried(" + c[0] + ", " + c[1] + ", " + c[2] + ")", NONE, y -> y.tried(c[0], c[1], c[2], false));
+        }
+
+        says(30, "BOXES what 0 the FACTOR, 1 x, 2 y, 3 r, 4 rounds.");
         SlopeJudge b = new SlopeJudge();
         int[] want = {20000, 40, 25, 10, 7};
         for (int what = 0; what < 5; what++) {
-            int last = what;
             due("boxes(40, 25, 10, 64, " + what + ")", b.boxes(40, 25, 10, 64, true, what), want[what]);
+        }
+        idle("boxes(6, 25, 6, 8, 2)", Edges.rich().boxes(6, 25, 6, 8, true, 2), y -> y.boxes(6, 25, 6, 8, true, 2));
+
+        says(30, "NONE - 99 if there is none, one can't be, or another what.");
+        for (int what = 0; what < 5; what++) {
+            int last = what;
             for (int[] c : new int[][] {{-51, 25, 10, 1}, {451, 25, 10, 1}, {6, -51, 10, 1}, {6, 451, 10, 1}, {6, 25, 0, 1}, {6, 25, 501, 1},
                 {6, 25, 10, 0}, {6, 25, 10, 65}, {6, 25, 10, -1}, {LEAST, 25, 10, 1}, {6, MOST, 10, 1}, {6, 25, LEAST, 1}, {6, 25, 10, LEAST},
                 {6, 25, 10, MOST}, {400, 400, 1, 64}}) {
@@ -604,9 +644,7 @@ public final class PromiseEdgesTest {
         for (int what : new int[] {-1, 5, LEAST, MOST}) {
             idle("boxes(6, 25, 6, 8, " + what + ")", -100, y -> y.boxes(6, 25, 6, 8, true, what));
         }
-        idle("boxes(6, 25, 6, 8, 2)", Edges.rich().boxes(6, 25, 6, 8, true, 2), y -> y.boxes(6, 25, 6, 8, true, 2));
 
-        says(31, "TABLES what 0 k, 1 a, 2 b, 10 and c BASE of COLUMN c (c 0 .. 40; 1, 2, these of the one that is told). NONE if there is none, t can't be, or another what.");
         tables();
 
         says(32, "DUG, from a CIRCLE with STEP 8: NONE if one can't be, or there is none.");
@@ -646,6 +684,7 @@ public final class PromiseEdgesTest {
     }
 
     private static void tables() {
+        says(31, "TABLES what 0 k, 1 a, 2 b, 10 and c BASE of COLUMN c (c 0 .. 40; 1, 2, these of the one that is told).");
         String text = "columns 4 1; ground 1*2 2*3; rock 1*2 2*3; load 0 100 0*3; soil 0 1 0 500;";
         SlopeJudge x = Edges.told(text);
         due("k", x.tables(1, true, 0), 500);
@@ -655,8 +694,16 @@ public final class PromiseEdgesTest {
         for (int c = 0; c <= 40; c++) {
             due("base " + c, x.tables(1, true, 10 + c), c < 5 ? bases[c] : NONE);
         }
+        idle("tables(2, 0)", Edges.rich().tables(2, true, 0), y -> y.tables(2, true, 0));
+        SlopeJudge wide = Edges.told("columns 40 1; ground 1*40 2; rock 1*40 2; load 0*39 100 0; soil 0 1 0 500;");
+        due("base of 40", wide.tables(1, true, 50), 2);
+        due("base of 39", wide.tables(1, true, 49), 1);
+        due("b", wide.tables(1, true, 2), 40);
+
+        says(31, "NONE if there is none, t can't be, or another what.");
         for (int what : new int[] {-1, 3, 4, 9, 51, LEAST, MOST}) {
             idle("tables(1, " + what + ")", NONE, y -> y.tables(1, true, what));
+            due("tables(1, " + what + ") of 40 columns", wide.tables(1, true, what), NONE);
         }
         for (int t : new int[] {0, 13, -1, LEAST, MOST}) {
             for (int what : new int[] {0, 1, 2, 10, 50}) {
@@ -667,11 +714,6 @@ public final class PromiseEdgesTest {
         for (int what : new int[] {1, 2, 10, 11, 12, 50}) {
             due("none is told", x.tables(1, false, what), NONE);
         }
-        idle("tables(2, 0)", Edges.rich().tables(2, true, 0), y -> y.tables(2, true, 0));
-        SlopeJudge wide = Edges.told("columns 40 1; ground 1*40 2; rock 1*40 2; load 0*39 100 0; soil 0 1 0 500;");
-        due("base of 40", wide.tables(1, true, 50), 2);
-        due("base of 39", wide.tables(1, true, 49), 1);
-        due("b", wide.tables(1, true, 2), 40);
     }
 
     private static void mirrored() {
@@ -721,7 +763,13 @@ public final class PromiseEdgesTest {
             Edges.due("twice", Edges.ground(x), before);
         }
 
-        says(34, "BERM (c no greater than d). NONE if k, a COLUMN can't be, there is no SLIP, or none.");
+        says(34, "BERM (c no greater than d).");
+        idle("berm(2, 1, 1)", NONE, y -> y.berm(2, 1, 1));
+        idle("berm(4, 0, 1)", NONE, y -> y.berm(4, 0, 1));
+        idle("berm(1, 1, 1)", 0, y -> y.berm(1, 1, 1));
+        idle("berm(0, 4, 1)", 0, y -> y.berm(0, 4, 1));
+
+        says(34, "NONE if k, a COLUMN can't be, there is no SLIP, or none.");
         for (int k : NO_K) {
             idle("berm(0, 4, " + k + ")", NONE, y -> y.berm(0, 4, k));
         }
@@ -729,9 +777,6 @@ public final class PromiseEdgesTest {
             idle("berm(" + c + ", 4, 1)", NONE, y -> y.berm(c, 4, 1));
             idle("berm(0, " + c + ", 1)", NONE, y -> y.berm(0, c, 1));
         }
-        idle("berm(2, 1, 1)", NONE, y -> y.berm(2, 1, 1));
-        idle("berm(1, 1, 1)", 0, y -> y.berm(1, 1, 1));
-        idle("berm(0, 4, 1)", 0, y -> y.berm(0, 4, 1));
         idleBare("berm(0, 4, 1)", NONE, y -> y.berm(0, 4, 1));
         due("none", Edges.slipped(Edges.told("columns 4 1; load 500*5; quake 500; rock 20*5;"), true, 0, 0, 0).berm(0, 4, 20000), NONE);
 
@@ -860,10 +905,12 @@ public final class PromiseEdgesTest {
     }
 
     private static void thrusts() {
-        says(36, "THRUST behind the i-th SLICE (k 1 .. 20000). NONE - 9999999999999999 if one up to it is FAST, one can't be, or there is none such.");
+        says(36, "THRUST behind the i-th SLICE (k 1 .. 20000).");
         SlopeJudge x = level("");
         due("k 1", x.thrust(0, 1), 20 - 20000);
         due("k 20000", x.thrust(1, 20000), 2 * (400000 - 20000));
+
+        says(36, "NONE - 9999999999999999 if one up to it is FAST, one can't be, or there is none such.");
         for (int k : NO_K) {
             idle("thrust(0, " + k + ")", Edges.NO_THRUST, y -> y.thrust(0, k));
         }
@@ -883,7 +930,11 @@ public final class PromiseEdgesTest {
         due("it is fast", f.thrust(2, 1000), Edges.NO_THRUST);
         due("it is not fast", f.thrust(2, 1001) > Edges.NO_THRUST, true);
 
-        says(37, "CREST. NONE if a SLICE is FAST, k can't be, or there is no SLIP.");
+        says(37, "CREST.");
+        due("k 1", x.crest(1), 0);
+        due("k 20000", x.crest(20000), 1);
+
+        says(37, "NONE if a SLICE is FAST, k can't be, or there is no SLIP.");
         due("the last is fast", f.crest(1000), NONE);
         due("none is fast", f.crest(1001) >= 0, true);
         f.points(true);
@@ -892,19 +943,20 @@ public final class PromiseEdgesTest {
         for (int k : NO_K) {
             idle("crest(" + k + ")", NONE, y -> y.crest(k));
         }
-        due("k 1", x.crest(1), 0);
-        due("k 20000", x.crest(20000), 1);
         idleBare("crest(20000)", NONE, y -> y.crest(20000));
     }
 
     private static void deepAndScan() {
-        says(38, "DEEP. NONE if there is none, no such COLUMN, CIRCLE, or k can't be.");
+        says(38, "DEEP.");
         SlopeJudge x = slope();
         int as = x.boxes(10, 24, 12, 8, true, 0);
-        due("there is none", x.deep(4, as + 1, 10, 24, 12, true), NONE);
         due("there is one", x.deep(4, as, 10, 24, 12, true) != NONE, true);
         due("k 1", x.deep(10, 1, 10, 24, 12, true), 5);
         due("k 20000", x.deep(0, 20000, 400, 400, 1, true), 5);
+        idle("deep(0, 1, 400, 400, 1)", 5, y -> y.deep(0, 1, 400, 400, 1, true));
+
+        says(38, "NONE if there is none, no such COLUMN, CIRCLE, or k can't be.");
+        due("there is none", x.deep(4, as + 1, 10, 24, 12, true), NONE);
         for (int c : new int[] {-1, 5, LEAST, MOST}) {
             idle("deep(" + c + ", 1)", NONE, y -> y.deep(c, 1, 400, 400, 1, true));
         }
@@ -914,9 +966,8 @@ public final class PromiseEdgesTest {
         for (int[] c : new int[][] {{-51, 25, 10}, {451, 25, 10}, {6, -51, 10}, {6, 451, 10}, {6, 25, 0}, {6, 25, 501}}) {
             idle("deep(0, 1, " + c[0] + ", " + c[1] + ", " + c[2] + ")", NONE, y -> y.deep(0, 1, c[0], c[1], c[2], true));
         }
-        idle("deep(0, 1, 400, 400, 1)", 5, y -> y.deep(0, 1, 400, 400, 1, true));
 
-        says(39, "SCAN (s 1 .. 64) what 0 how many, 1 of how many FACTOR is below k. NONE if one can't be (the CIRCLE in its midst, k), or another what.");
+        says(39, "SCAN (s 1 .. 64) what 0 how many, 1 of how many FACTOR is below k.");
         SlopeJudge s = slope();
         int tried = s.tried(10, 24, 12, true);
         int[] counts = new int[2];
@@ -934,6 +985,9 @@ public final class PromiseEdgesTest {
         due("s 64", s.scan(10, 24, 12, 64, true, 1, 0), 1);
         due("a circle in its midst that does not cut", s.scan(10, 60, 12, 64, true, 1, 0) >= 0, true);
         due("none cuts", s.scan(400, 400, 1, 1, true, 1, 0), 0);
+        idle("scan", Edges.rich().scan(6, 25, 6, 1, true, 1000, 0), y -> y.scan(6, 25, 6, 1, true, 1000, 0));
+
+        says(39, "NONE if one can't be (the CIRCLE in its midst, k), or another what.");
         for (int what = 0; what < 2; what++) {
             int last = what;
             for (int[] c : new int[][] {{-51, 25, 10, 1}, {451, 25, 10, 1}, {6, -51, 10, 1}, {6, 451, 10, 1}, {6, 25, 0, 1}, {6, 25, 501, 1},
@@ -949,7 +1003,6 @@ public final class PromiseEdgesTest {
         for (int what : new int[] {-1, 2, LEAST, MOST}) {
             idle("scan " + what, NONE, y -> y.scan(6, 25, 6, 1, true, 1000, what));
         }
-        idle("scan", Edges.rich().scan(6, 25, 6, 1, true, 1000, 0), y -> y.scan(6, 25, 6, 1, true, 1000, 0));
     }
 
     private static void chances() {
@@ -962,12 +1015,19 @@ public final class PromiseEdgesTest {
         due("state(0)", x.state(0), -1);
         due("look(13)", x.look(13), 0);
 
-        says(41, "CHANCE (n 1 .. 40, w 0 .. 50). NONE, and no DRAW, if one can't be, or there is no SLIP.");
+        says(41, "CHANCE (n 1 .. 40, w 0 .. 50).");
         due("n 1, w 0", level("").chance(1, 0, 1000), 0);
         due("n 40, w 0", level("").chance(40, 0, 1001), 40);
         due("w 50", level("").chance(40, 50, 500), 0);
         due("k 1", level("").chance(40, 50, 1), 0);
         due("k 20000", level("").chance(40, 50, 20000), 40);
+        SlopeJudge now = level("");
+        now.soil(0, 20, 0, 200);
+        now.quake(200);
+        due("as it is now", now.chance(9, 0, 1000), 0);
+        due("as it is now", now.chance(9, 0, 1001), 9);
+
+        says(41, "NONE, and no DRAW, if one can't be, or there is no SLIP.");
         for (int n : new int[] {0, 41, -1, LEAST, MOST}) {
             idle("chance(" + n + ", 0, 1000)", NONE, y -> y.chance(n, 0, 1000));
         }
@@ -978,33 +1038,26 @@ public final class PromiseEdgesTest {
             idle("chance(1, 0, " + k + ")", NONE, y -> y.chance(1, 0, k));
         }
         idleBare("chance(1, 0, 1000)", NONE, y -> y.chance(1, 0, 1000));
-        SlopeJudge now = level("");
-        now.soil(0, 20, 0, 200);
-        now.quake(200);
-        due("as it is now", now.chance(9, 0, 1000), 0);
-        due("as it is now", now.chance(9, 0, 1001), 9);
     }
 
     private static void reports() {
-        says(42, "A REPORT is chosen: how many signs. NONE, none being chosen, without a SLIP.");
+        says(42, "A REPORT is chosen: how many signs.");
         SlopeJudge x = level("");
         due("report()", x.report(), 11);
         Edges.due("it is", Edges.reported(x), "1.000 0-2 L");
+
+        says(42, "NONE, none being chosen, without a SLIP.");
         x.tell(0, 0, 0);
         due("without a slip", x.report(), NONE);
         due("none is chosen", x.sign(0), NONE);
         due("none at all", new SlopeJudge().report(), NONE);
 
-        says(43, "Sign i of the chosen REPORT (as it was then), as a byte. NONE if there is none such.");
+        says(43, "Sign i of the chosen REPORT (as it was then), as a byte.");
         SlopeJudge y = level("");
-        due("none is chosen yet", y.sign(0), NONE);
         y.report();
         int[] signs = {49, 46, 48, 48, 48, 32, 48, 45, 50, 32, 76};
         for (int i = 0; i < signs.length; i++) {
             due("sign(" + i + ")", y.sign(i), signs[i]);
-        }
-        for (int i : new int[] {-1, 11, 12, 15, 16, LEAST, MOST}) {
-            due("sign(" + i + ")", y.sign(i), NONE);
         }
         y.quake(500);
         y.points(false);
@@ -1019,7 +1072,24 @@ public final class PromiseEdgesTest {
         y.points(false);
         y.report();
         Edges.due("another one", Edges.reported(y), "20.000 3-4 R");
-        due("nothing of the one ahead", y.sign(12), NONE);
+
+        says(43, "NONE if there is none such.");
+        SlopeJudge z = level("");
+        due("none is chosen yet", z.sign(0), NONE);
+        z.report();
+        due("the last sign", z.sign(10), 'L');
+        for (int i : new int[] {-1, 11, 12, 15, 16, LEAST, MOST}) {
+            due("sign(" + i + ")", z.sign(i), NONE);
+        }
+        y.point(NONE, 0);
+        y.point(1, 0);
+        y.point(2, 0);
+        y.points(true);
+        y.soil(0, 20, 0, 0);
+        y.tell(1, 2, 100);
+        due("a shorter one", y.report(), 11);
+        Edges.due("it is", Edges.reported(y), "0.000 1-2 L");
+        due("nothing of the longer one ahead", y.sign(11), NONE);
     }
 
     private static void images() {

@@ -489,7 +489,7 @@ public final class TextEdgesTest {
             due("the image", y.image(false), true);
         }
 
-        Edges.says(11, "Of the latest text() what 0 FAULT (0 without), 1 its place (NONE). NONE for another what.");
+        Edges.says(11, "Of the latest text() what 0 FAULT (0 without), 1 its place (NONE).");
         SlopeJudge f = new SlopeJudge();
         due("fault(0) ahead of all", f.fault(0), 0);
         due("fault(1) ahead of all", f.fault(1), NONE);
@@ -507,13 +507,16 @@ public final class TextEdgesTest {
         f.image(false);
         due("fault(0) stays", f.fault(0), 2);
         due("fault(1) stays", f.fault(1), 10);
-        for (int what : new int[] {-1, 2, Edges.LEAST, Edges.MOST}) {
-            due("fault(" + what + ")", f.fault(what), NONE);
-        }
         Edges.put(f, "columns 4 4;");
         f.text();
         due("fault(0) without", f.fault(0), 0);
         due("fault(1) without", f.fault(1), NONE);
+
+        Edges.says(11, "NONE for another what.");
+        for (int what : new int[] {-1, 2, Edges.LEAST, Edges.MOST}) {
+            due("fault(" + what + ") without", f.fault(what), NONE);
+            Edges.idle("fault(" + what + ")", Edges::rich, y -> y.fault(what), NONE);
+        }
     }
 
     public static void main(String[] args) {
