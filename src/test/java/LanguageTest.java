@@ -1,3 +1,5 @@
+import java.io.PrintWriter;
+import java.io.StringWriter;
 import java.lang.reflect.Constructor;
 import java.lang.reflect.Field;
 import java.lang.reflect.Method;
@@ -5,10 +7,15 @@ import java.lang.reflect.Modifier;
 import java.nio.charset.StandardCharsets;
 import java.nio.file.Files;
 import java.nio.file.Path;
+import java.util.ArrayList;
+import java.util.List;
+import java.util.Map;
 import java.util.Set;
+import java.util.TreeMap;
 import java.util.TreeSet;
 import java.util.regex.Matcher;
 import java.util.regex.Pattern;
+import java.util.spi.ToolProvider;
 
 /** The face of the document, and the rules of LANGUAGE.md as far as the source and the class show them. */
 public final class LanguageTest {
@@ -143,8 +150,84 @@ public final class LanguageTest {
         }
     }
 
+    /** The classes taken apart, by the tool that stands in the Java machine itself. */
+    private static String takenApart() {
+        List<String> args = new ArrayList<>(List.of("-c", "-p", "-cp", System.getProperty("java.class.path"), "SlopeJudge"));
+        for (Class<?> c : SlopeJudge.class.getDeclaredClasses()) {
+            args.add(c.getName());
+        }
+        StringWriter out = new StringWriter();
+        PrintWriter to = new PrintWriter(out);
+        ToolProvider javap = ToolProvider.findFirst("javap").orElse(null);
+        if (javap == null || javap.run(to, to, args.toArray(new String[0])) != 0) {
+            wrong("the class can't be taken apart");
+        }
+        return out.toString();
+    }
+
+    /** Which methods of the class each calls; what makes an object outside a constructor is told at once. */
+    private static Map<String, Set<String>> callsOf(String code) {
+        Map<String, Set<String>> calls = new TreeMap<>();
+        Pattern head = Pattern.compile("  \\S.*?([\\w$]+)\\((.*)\\);");
+        Pattern invoke = Pattern.compile(".*\\binvoke\\w+ .*// Method ([\\w$]+\\.)?\"?([\\w$<>]+)\"?:.*");
+        String in = "";
+        String method = "";
+        for (String line : code.split("\n")) {
+            Matcher type = Pattern.compile("\\S.*\\bclass ([\\w$]+) .*\\{").matcher(line);
+            Matcher h = head.matcher(line);
+            Matcher call = invoke.matcher(line);
+            if (type.matches()) {
+                in = type.group(1);
+            } else if (h.matches()) {
+                method = in + "." + (h.group(1).equals(in) ? "<init>" : h.group(1));
+                calls.put(method, new TreeSet<>());
+            } else if (call.matches()) {
+                String owner = call.group(1) == null ? in + "." : call.group(1);
+                calls.get(method).add(owner + call.group(2));
+            } else if (line.matches(".*: (new|newarray|anewarray|multianewarray) .*") && !method.endsWith("<init>")
+                    && !method.equals("SlopeJudge.tableOf")) {
+                wrong("an object is made outside a constructor: " + method);
+            }
+        }
+        return calls;
+    }
+
+    /** How many methods stand open at most, this one too; library methods are not counted. */
+    private static int depth(Map<String, Set<String>> calls, String method, Set<String> open) {
+        if (!calls.containsKey(method)) {
+            return 0;
+        }
+        if (!open.add(method)) {
+            wrong("a method calls itself: " + method);
+            return 0;
+        }
+        int most = 0;
+        for (String next : calls.get(method)) {
+            most = Math.max(most, depth(calls, next, open));
+        }
+        open.remove(method);
+        return most + 1;
+    }
+
+    private static void depths() {
+        Map<String, Set<String>> calls = callsOf(takenApart());
+        int most = 0;
+        for (String method : calls.keySet()) {
+            int d = depth(calls, method, new TreeSet<>());
+            most = Math.max(most, d);
+            if (d > 8) {
+                wrong("calls go " + d + " deep: " + method);
+            }
+        }
+        if (calls.size() < FACE.length || most < 2) {
+            wrong("no calls were seen");
+        }
+        System.out.println(calls.size() + " methods, calls at most " + most + " deep");
+    }
+
     public static void main(String[] args) throws Exception {
         face();
+        depths();
         String source = new String(Files.readAllBytes(Path.of("src/main/java/SlopeJudge.java")), StandardCharsets.ISO_8859_1);
         words(source);
         lengths(source);
