@@ -762,6 +762,12 @@ public final class PromiseEdgesTest {
             x.mirror();
             Edges.due("twice", Edges.ground(x), before);
         }
+        SlopeJudge x = Edges.slipped(new SlopeJudge(), true, 1, 20, 17, 18, 20);
+        x.mirror();
+        due("points stay", x.look(8), 4);
+        due("points(true)", x.points(true), 3);
+        due("from where they were", x.look(5), 1);
+        due("at the height they had", x.column(2, 8), 17);
 
         says(34, "BERM (c no greater than d).");
         idle("berm(2, 1, 1)", NONE, y -> y.berm(2, 1, 1));

@@ -268,6 +268,12 @@ public final class SlipEdgesTest {
             due("boxes too high", x.boxes(40, 60, 10, 1, true, what), -100);
             due("boxes below all", x.boxes(40, -50, 400, 1, true, what), -100);
         }
+        // none of the 27 of the first round CUTS: those with STEP 64 are off the ground, or have COLUMN 0 in them
+        int[] later = {20000, 31, -11, 1, 8};
+        for (int what = 0; what < 5; what++) {
+            due("boxes that cut in the second round", Edges.told("columns 4 10;").boxes(-1, 21, 1, 64, true, what), later[what]);
+        }
+        dueBoxes("columns 4 10;", -1, 21, 1, 64, true);
     }
 
     private static void dueTables(String text, int t, boolean left, int... kAndAAndBAndBases) {
